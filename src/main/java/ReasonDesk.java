@@ -425,7 +425,7 @@ public final class ReasonDesk {
         if (!isHold(k)) return UNKNOWN;
         Thing there = things[k];
         if (there == null) return faulted(NULL);
-        if (there instanceof Rule shown) return shown.shown(trail);
+        if (there instanceof Rule one) return one.shown(trail);
         return faulted(CAST);
     }
 
