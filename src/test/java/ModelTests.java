@@ -54,18 +54,18 @@ public final class ModelTests {
         int style = run % 6;
         int letters = 2 + random.nextInt(style == 4 ? 7 : 3);
         if (random.nextInt(3) == 0) for (int i = 0; i < 6 + random.nextInt(8); i++) text(letters);
-        else literals(letters);
+        else literals(letters + (style == 2 ? 2 : 0), style);
         int ready = 5 + random.nextInt(8);
         for (int i = 0; i < ready; i++) {
             int s = known();
             boolean always = random.nextInt(3) > 0;
             int from = always ? 0 : random.nextInt(3), to = always ? 99 : 50 + random.nextInt(50);
             if (style == 0 || style == 3 || style >= 4) call(6, s, random.nextInt(6), from, to, always ? 0 : random.nextInt(60));
-            if (style == 1 && i < 3) call(6, s, random.nextInt(6), 0, 99, 0);
-            if (style == 1 || style >= 4) call(23, random.nextInt(3), random.nextInt(2) == 0 ? random.nextInt(2) : known(), known(),
-                random.nextInt(3) == 0 ? 1 : known(), random.nextInt(random.nextBoolean() ? 3 : 10));
+            if (style == 1 && i < run / 6 % 3) call(6, s, random.nextInt(6), 0, 99, 0);
+            if (style == 1 || style >= 4) call(23, random.nextInt(3), random.nextInt(2) == 0 ? 0 : known(), known(),
+                random.nextInt(4) == 0 ? 1 : known(), random.nextInt(random.nextBoolean() ? 3 : 10));
             if (style == 2 || style == 4) call(28, known(), random.nextInt(6));
-            if (style == 2 && i < 5) call(5, i, 1 + random.nextInt(random.nextBoolean() ? 2 : 9));
+            if (style == 2 && i < 5) call(5, i, 1 + random.nextInt(run % 4 == 0 ? 2 : 9));
         }
         while (calls < CALLS && wrong == 0) {
             int pick = random.nextInt(20);
@@ -78,7 +78,7 @@ public final class ModelTests {
     }
 
     // True, false, letters, their contraries, and some made of these.
-    private void literals(int letters) {
+    private void literals(int letters, int style) {
         String first = "10";
         for (int i = 0; i < 2 + letters; i++) {
             call(43, 0, 0, 1);
@@ -86,8 +86,8 @@ public final class ModelTests {
             call(0, 0, 0, 0, 1);
         }
         for (int i = 0; i < letters; i++) call(1, 0, 2 + i, 0);
-        int more = random.nextInt(10);
-        for (int i = 0; i < more; i++) call(1, 1 + random.nextInt(4), known(), known());
+        int more = random.nextInt(10) + (style == 2 ? 10 : 0);
+        for (int i = 0; i < more; i++) call(1, style == 2 ? 1 : 1 + random.nextInt(4), known(), known());
     }
 
     // A sentence that there is; seldom one of the first two, which may be those that are always alike.
