@@ -192,6 +192,7 @@ public final class PromiseTests {
         StringBuilder ifs = new StringBuilder("a");
         for (int i = 0; i < 28; i++) ifs.append(">a");
         due("29 ifs", say(x, ifs.append(">0").toString()), 1);
+        due("their worlds", x.compare(1, 0), 3);
         due("60 nots too few", say(x, new String(new char[60]).replace('\0', '-')), -160);
         due("60 brackets", say(x, new String(new char[60]).replace('\0', '(')), -160);
         readings();
@@ -539,6 +540,62 @@ public final class PromiseTests {
         y.trust(1, 3);
         due("the least weight first", y.least(3), 3);
         due("sentences made", and + two, 5);
+        ReasonDesk z = new ReasonDesk();
+        say(z, "b>a", "c>a", "d>a", "b&c&d", "a", "g|h", "-(-g&-h)&a");
+        z.trust(0, 1);
+        z.trust(1, 4);
+        for (int s = 0; s < 3; s++) always(z, s, 0);
+        always(z, 3, 1);
+        due("many light ones go ahead of a heavy one", z.least(4), 7);
+        due("false in the first 64 worlds alone", z.least(5), 0);
+        promise = 22;
+        due("giveUp of what does not follow", z.giveUp(z.make(0, z.make(2, 4, 6), 0)), 0);
+        z.view(0, 40);
+        z.giveUp(4);
+        int e = z.hold(4, 0, 0, 99, 0);
+        due("giveUp(4)", z.giveUp(4), 1 << e);
+        due("given up", z.entry(e, 5), 40);
+        ReasonDesk first = new ReasonDesk();
+        say(first, "a");
+        always(first, 0, 0);
+        due("giveUp(0)", first.giveUp(0), 1);
+        due("nothing is left", first.many(8), 0);
+        worldZero();
+    }
+
+    // What is false in world 0 alone: no entry tells letters, so it follows of none.
+    private static void worldZero() {
+        ReasonDesk x = new ReasonDesk();
+        say(x, "a|b|c|d|e|f|g|h", "a", "-a");
+        promise = 18;
+        for (int sense = 0; sense < 5; sense++) due("held by an empty book", x.held(0, sense), 0);
+        promise = 14;
+        due("reasons of none", x.reasons(0, 0), 0);
+        promise = 19;
+        due("cuts: the empty one", x.cuts(0), 1);
+        promise = 21;
+        due("least(0)", x.least(0), 0);
+        always(x, 1, 0);
+        promise = 14;
+        due("a is a reason", x.reasons(0, 0), 1);
+        promise = 20;
+        due("without it world 0 is left", x.cutOf(0, 0), 1);
+        promise = 24;
+        due("what is true but in world 0 does not bring back a", x.postulate(0, 3), 0);
+        ReasonDesk y = new ReasonDesk();
+        say(y, "a", "-(a|b|c|d|e|f|g|h)", "-(a&b&c&d&e&f&g&h)", "0", "-(-a&-b)");
+        always(y, 0, 0);
+        always(y, 1, 0);
+        due("world 0 comes back", y.postulate(1, 3), 1);
+        promise = 16;
+        ReasonDesk z = new ReasonDesk();
+        say(z, "a&-a", "-g&-h");
+        always(z, 0, 0);
+        due("the only harmony is the empty one", z.harmonies(0), 1);
+        due("free: none", z.harmonies(3), 0);
+        due("weight 0", z.harmonies(2), 0);
+        promise = 23;
+        due("true in the first 64 worlds alone", z.news(1, 0), 1);
     }
 
     private static void news() {
@@ -750,7 +807,9 @@ public final class PromiseTests {
         x.trust(1, 4);
         due("below", x.strikes(1, 0), 0);
         due("above", x.strikes(0, 1), 1);
-        x.trust(1, 5);
+        for (int source = 0; source < 6; source++) x.trust(source, source == 0 ? 3 : 8);
+        due("all trusts are others", x.strikes(0, 1), 0);
+        for (int source = 0; source < 6; source++) x.trust(source, 5);
         due("again", x.strikes(1, 0), 1);
         x.trust(2, 1);
         promise = 33;
@@ -855,6 +914,9 @@ public final class PromiseTests {
         due("parts() of none", x.parts(), 0);
         promise = 37;
         for (int law = 0; law < 3; law++) due("merged of none", x.merged(law), 256);
+        promise = 38;
+        for (int law = 0; law < 3; law++) due("its first world", x.mergedWorld(law, 0), 0);
+        promise = 37;
         always(x, 0, 0);
         always(x, 1, 1);
         promise = 35;
@@ -917,6 +979,26 @@ public final class PromiseTests {
         x.drop(4, NONE);
         x.drop(0, 0);
         due("only what is never true", x.parts(), 3);
+        farthest();
+    }
+
+    // Two sources that are other in all eight letters.
+    private static void farthest() {
+        ReasonDesk x = new ReasonDesk();
+        say(x, "a&b&c&d&e&f&g&h", "-(a|b|c|d|e|f|g|h)");
+        always(x, 0, 4);
+        always(x, 1, 5);
+        promise = 36;
+        due("far(0, 4)", x.far(0, 4), 8);
+        due("far(255, 5)", x.far(255, 5), 8);
+        promise = 37;
+        due("merged(0)", x.merged(0), 256);
+        due("merged(1)", x.merged(1), 70);
+        due("merged(2)", x.merged(2), 70);
+        promise = 38;
+        due("mergedWorld(2, 0)", x.mergedWorld(2, 0), 15);
+        due("mergedWorld(2, 69)", x.mergedWorld(2, 69), 240);
+        due("mergedWorld(2, 70)", x.mergedWorld(2, 70), UNKNOWN);
     }
 
     private static void holds() {
@@ -983,6 +1065,11 @@ public final class PromiseTests {
         due("show nothing", x.show(4), NULL);
         due("fault()", x.fault(), 1);
         due("show(6)", x.show(6), UNKNOWN);
+        due("fault()", x.fault(), 0);
+        due("show(4)", x.show(4), NULL);
+        due("show a rule again", x.show(1), 0);
+        trace = 31 * trace + 5;
+        due("fault()", x.fault(), 0);
         due("show(-1)", x.show(-1), UNKNOWN);
         promise = 50;
         due("faults leave no trace", x.trace(), trace);
@@ -1023,6 +1110,8 @@ public final class PromiseTests {
         due("fault()", x.fault(), 0);
         due("sheet(3, 0, -1)", x.sheet(3, 0, -1), SIZE);
         due("fault()", x.fault(), 4);
+        due("sheet(4, 0, 0)", x.sheet(4, 0, 0), UNKNOWN);
+        due("fault()", x.fault(), 0);
         due("sheet(2, 0, LEAST)", x.sheet(2, 0, LEAST), SIZE);
         due("as it was", x.cell(2, 2, 2), 0);
         due("sheet(3, 0, LEAST) leaves nothing", x.put(3, 0, 0), NULL);
