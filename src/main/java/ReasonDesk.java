@@ -1231,18 +1231,32 @@ public final class ReasonDesk {
             if (foundCount == count) return extended;
             foundCount = count;
             extended.clear();
-            for (int set = 0; set < 1 << count; set++) if (isExtension(set)) extended.add(set);
+            int able = able(), set = 0;
+            for (int left = 1 << Integer.bitCount(able); left > 0; left--) {
+                if (isExtension(set)) extended.add(set);
+                // the next part of those that are able
+                set = set - able & able;
+            }
             return extended;
+        }
+
+        // The rules that can come to go in some row: no other one is in an extension.
+        private int able() {
+            int set = 0;
+            for (int r = 0; r < count && r < thens.length; r++)
+                if (base.meetsBut(thens[r], unlesses[r])) set |= 1 << r;
+            return inRow(set);
         }
 
         private boolean isExtension(int set) {
             Bits of = worldsOf(set);
             for (int r = 0; r < count; r++) if (goes(r, of) != ((set >> r & 1) == 1)) return false;
-            return standsInRow(set);
+            return inRow(set) == set;
         }
 
-        // Worlds only go, so a rule whose turn has come once may be put next at once.
-        private boolean standsInRow(int set) {
+        // Those of a set that can be put in a row. Worlds only go, so a rule whose turn has come
+        // once may be put next at once.
+        private int inRow(int set) {
             int left = set;
             ahead.become(base);
             for (int round = 0; round < count && left != 0; round++) {
@@ -1252,7 +1266,7 @@ public final class ReasonDesk {
                     left &= ~(1 << r);
                 }
             }
-            return left == 0;
+            return set & ~left;
         }
 
         // How many rules of each rank, those of rank 0 in the highest four bits.
@@ -1313,6 +1327,8 @@ public final class ReasonDesk {
 
     // Claims that strike one another.
     private static final class Claims {
+        private static final int LOW = 1 << 6;
+
         int count;
         int standing;
         final int[] said = new int[CLAIMS];
@@ -1326,6 +1342,8 @@ public final class ReasonDesk {
         private final Bits[] places = rowOfBits(CLAIMS);
         private final int[] trusted = new int[SOURCES];
         private final Bits closed = new Bits(1 << CLAIMS);
+        private final int[] struckByLow = new int[LOW];
+        private final int[] strikersOfLow = new int[LOW];
         private int settledCount = NOTHING;
         private int soughtCount = NOTHING;
 
@@ -1401,16 +1419,31 @@ public final class ReasonDesk {
             soughtCount = count;
             sound.clear();
             stable.clear();
-            int all = (1 << count) - 1;
-            for (int set = 0; set <= all; set++) {
-                int hit = allOf(struck, set);
-                if ((hit & set) != 0) continue;
-                if ((hit | set) == all) stable.add(set);
-                if ((allOf(strikers, set) & ~hit) == 0) sound.add(set);
-            }
+            fillLow();
+            for (int high = 0; high < 1 << count; high += LOW) seekFrom(high);
             closed.become(sound);
             closed.closeDown(CLAIMS);
             preferred.becomeTops(closed, CLAIMS);
+        }
+
+        // What each set of the first six claims strikes, and is struck by.
+        private void fillLow() {
+            for (int set = 0; set < LOW; set++) {
+                struckByLow[set] = allOf(struck, set);
+                strikersOfLow[set] = allOf(strikers, set);
+            }
+        }
+
+        // The sets that are one of others than the first six claims, and some of these.
+        private void seekFrom(int high) {
+            int all = (1 << count) - 1;
+            int struckByHigh = allOf(struck, high), strikersOfHigh = allOf(strikers, high);
+            for (int low = 0; low < LOW && (high | low) <= all; low++) {
+                int set = high | low, hit = struckByHigh | struckByLow[low];
+                if ((hit & set) != 0) continue;
+                if ((hit | set) == all) stable.add(set);
+                if (((strikersOfHigh | strikersOfLow[low]) & ~hit) == 0) sound.add(set);
+            }
         }
 
         int answerTo(int c) {
