@@ -311,6 +311,9 @@ public final class EdgeTests {
             ifs.due(w == 1 ? 1 : 0, "truth", 2, w);
         }
         edge(0, "D is C, or C | C | .. (or); C is N, or N & N & .. (and);");
+        Desk first = with("a|b>c", "(a|b)>c", "a>b|c", "a>(b|c)", "a&b>c", "(a&b)>c", "a>b&c>d", "a>((b&c)>d)", "a|b&c>d|e",
+            "(a|(b&c))>(d|e)", "-a>b", "(-a)>b", "a|b|c>d", "(a|b|c)>d");
+        for (int s = 0; s < 14; s += 2) first.due(3, "compare", s, s + 1);
         Desk ors = with("a|b&c|d", "a|(b&c)|d", "-a&b|c", "((-a)&b)|c", "a&b&c&d&e&f&g&h", "a|b|c|d|e|f|g|h", "a&-b|-a&b", "-a|b&-b");
         for (int s = 0; s < 4; s += 2) ors.due(3, "compare", s, s + 1);
         ors.due(1, "worlds", 4);
@@ -744,6 +747,8 @@ public final class EdgeTests {
         d.due(1, "entry", 5, 6);
         Desk many = pairs();
         for (int e = 0; e < 12; e++) many.due(32, "entry", e, 8);
+        for (int e = 0; e < 12; e += 3) many.ask("drop", e, 0);
+        for (int e = 0; e < 12; e++) many.due(e % 3 == 0 ? 0 : e == 1 || e == 2 || e == 7 || e == 8 ? 4 : 2, "entry", e, 8);
         edge(10, "UNKNOWN;");
         each(UNKNOWN, "entry", "4 0", "-1 0", "4 9", "-1 -1", "L 0", "G 0");
         each(EdgeTests::full, UNKNOWN, "entry", "12 0");
@@ -807,6 +812,8 @@ public final class EdgeTests {
         none.holds(0, 0);
         none.due(1, "harmonies", 0);
         none.due(0, "harmony", 0, 0);
+        none.due(0, "harmonies", 3);
+        none.due(0, "entry", 0, 7);
         none.holds(1, 1, 3, 1, 4, 1, 2, 2);
         none.due(2, "harmonies", 0);
         row(none, "harmony", new int[] {14, 20, UNKNOWN}, 0);
@@ -1073,6 +1080,9 @@ public final class EdgeTests {
         Desk one = with("a&b", "a", "b", "a|b").holds(0, 0);
         int[] ones = {1, 0, 0, 0};
         for (int s = 0; s < 4; s++) row(one, "postulate", new int[] {1, 1, 1, ones[s]}, s);
+        // only the first world comes to the one that was, or the last one
+        String[][] neighbours = {{"a&-b&-c&-d&-e&-f&-g&-h", "-b&-c&-d&-e&-f&-g&-h"}, {"-a&b&c&d&e&f&g&h", "b&c&d&e&f&g&h"}};
+        for (String[] texts : neighbours) row(with(texts).holds(0, 0), "postulate", new int[] {1, 1, 1, 0}, 1);
         Desk empty = with("a", "0");
         for (int s = 0; s < 2; s++) row(empty, "postulate", new int[] {1, 1, 1, 1}, s);
         Desk strife = with("a", "-a", "0", "b").holds(0, 0, 1, 1);
@@ -1143,6 +1153,11 @@ public final class EdgeTests {
         Desk apart = with("1", "a", "-b", "a>b").holds(3, 0);
         apart.ask("rule", 0, 0, 1, apart.say("b"), 0);
         apart.due(0, "ruled", 0, 5);
+        // the one world where it can is the first, or the last
+        Desk ends = with("1", "0", "-(a|b|c|d|e|f|g|h)", "a&b&c&d&e&f&g&h", "a|b|c|d|e|f|g|h", "-(a&b&c&d&e&f&g&h)");
+        int[][] rules = {{2, 1}, {3, 1}, {0, 4}, {0, 5}, {4, 4}, {5, 5}};
+        for (int[] rule : rules) ends.ask("rule", 0, 0, rule[0], rule[1], 0);
+        for (int r = 0; r < 6; r++) ends.due(r < 4 ? 1 : 0, "ruled", r, 5);
     }
 
     private static Desk quarrels(int... ranks) {
@@ -1183,11 +1198,17 @@ public final class EdgeTests {
         ring.holds(4, 0);
         row(ring, "extension", new int[] {4, UNKNOWN}, 0);
         row(ring, "extension", new int[] {64, UNKNOWN}, 2);
-        Desk chain = with("a", "b", "c", "d", "e", "f", "g", "h", "1", "0", "a&b", "c&d");
-        int[][] links = {{7, 10}, {6, 7}, {5, 6}, {4, 5}, {3, 4}, {2, 3}, {1, 2}, {0, 1}, {8, 0}, {11, 8}};
-        for (int r = 0; r < 10; r++) chain.ask("rule", 0, links[r][0], links[r][1], 9, 0);
+        // ten in a row, the last one first
+        Desk chain = with("d", "b", "g", "g|h", "e", "e|f", "c", "c|d", "a", "a|b", "1", "0");
+        for (int r = 0; r < 10; r++) chain.ask("rule", 0, r + 1, r, 11, 0);
         row(chain, "extension", new int[] {1023, UNKNOWN}, 0);
-        row(chain, "extension", new int[] {1, UNKNOWN}, 2);
+        row(chain, "extension", new int[] {4, UNKNOWN}, 2);
+        // what can not go gives no ground to others
+        Desk ground = with("a", "b", "0", "1");
+        ground.ask("rule", 0, 3, 0, 3, 0);
+        ground.ask("rule", 0, 0, 1, 2, 0);
+        ground.ask("rule", 0, 1, 0, 2, 0);
+        row(ground, "extension", new int[] {0, UNKNOWN}, 0);
         edge(0, "BEST ones: with the most RULES of RANK 0, of these with the most of RANK 1, and so on.");
         int[][] ranks = {{0, 0, 0, 0, 0, 0, 0, 0, 0, 0}, {9, 9, 9, 9, 9, 9, 9, 9, 9, 9}, {0, 9, 0, 9, 0, 9, 0, 9, 0, 9},
             {9, 8, 9, 8, 9, 8, 9, 8, 9, 8}, {0, 1, 1, 0, 3, 3, 8, 7, 9, 9}};
@@ -1212,6 +1233,18 @@ public final class EdgeTests {
             row(d, "extension", new int[] {1, 14, UNKNOWN}, 0);
             row(d, "extension", new int[] {row[4], UNKNOWN}, 1);
         }
+        for (int rank = 0; rank < 10; rank++) {
+            Desk nine = with("1", "-(a|b|c|d|e|f|g|h)", "a|b|c|d|e|f|g|h", "a", "b", "c", "d", "e", "f", "g", "h", "a|b");
+            nine.ask("rule", 0, 0, 1, 2, rank);
+            for (int r = 1; r < 10; r++) nine.ask("rule", 0, 0, 2 + r, 1, Math.min(9, rank + 1));
+            row(nine, "extension", new int[] {1, 0x3FE, UNKNOWN}, 0);
+            row(nine, "extension", new int[] {rank < 9 ? 1 : 0x3FE, UNKNOWN}, 1);
+        }
+        Desk later = with("1", "a", "0", "-a");
+        later.ask("rule", 0, 0, 1, 2, 0);
+        row(later, "extension", new int[] {1, UNKNOWN}, 1);
+        later.holds(3, 0);
+        row(later, "extension", new int[] {0, UNKNOWN}, 1);
     }
 
     private static void barring() {
@@ -1281,6 +1314,8 @@ public final class EdgeTests {
             many.due(2, "ruled", r, 7);
             many.due(1 << (r ^ 1), "ruled", r, 8);
         }
+        many.holds(8, 0, 10, 0);
+        for (int r = 0; r < 10; r++) many.due(r < 6 ? 4 : r % 2 == 1 ? 8 : 0, "ruled", r, 6);
         edge(26, "UNKNOWN;");
         each(UNKNOWN, "ruled", "3 0", "-1 0", "3 9", "-1 -1", "L 0", "G 0");
         each(EdgeTests::full, UNKNOWN, "ruled", "10 0");
@@ -1320,6 +1355,10 @@ public final class EdgeTests {
         row(q, "concluded", new int[] {0, 0, 0}, more);
         q.holds(more, 0);
         row(q, "concluded", new int[] {1, 1, 1}, more);
+        Desk dull = with("a", "1");
+        dull.ask("rule", 0, 1, 0, 1, 0);
+        row(dull, "concluded", new int[] {0, 0, 0}, 0);
+        row(dull, "concluded", new int[] {1, 1, 1}, 1);
         edge(29, "UNKNOWN;");
         each(UNKNOWN, "concluded", "7 0", "-1 0", "7 3", "L 0", "G 0");
         each(EdgeTests::stuck, UNKNOWN, "concluded", "5 0", "-1 0");
@@ -1364,6 +1403,12 @@ public final class EdgeTests {
         s.ask("trust", 3, 1);
         int[][] last = {{0, 1, 0, 1}, {0, 0, 0, 1}, {0, 0, 0, 1}, {0, 0, 0, 1}};
         for (int a = 0; a < 4; a++) row(s, "strikes", last[a], a);
+        // all six become others at once
+        int[] trusts = {1, 2, 3, 2, 1, 1};
+        for (int source = 0; source < 6; source++) s.ask("trust", source, trusts[source]);
+        s.due(0, "strikes", 0, 1);
+        int[][] then = {{0, 0, 0, 0}, {1, 0, 0, 1}, {0, 0, 0, 1}, {1, 1, 0, 1}};
+        for (int a = 0; a < 4; a++) row(s, "strikes", then[a], a);
         standing();
         choosing();
         dialogues();
@@ -1399,6 +1444,10 @@ public final class EdgeTests {
         for (int c = 0; c < 12; c++) free.due(1, "claimed", c, 2);
         free.due(4095, "sets", 3);
         new Desk().due(0, "sets", 3);
+        Desk one = with("a");
+        one.ask("claim", 0, 5);
+        one.due(1, "sets", 3);
+        row(one, "claimed", new int[] {0, 5, 1, 2, 1, 1, NONE, 1}, 0);
         edge(0, "FALLEN: those that one that STANDS STRIKES; OPEN: all others.");
         Desk c = chain();
         for (int i = 0; i < 11; i++) c.due(i % 2 == 0 ? 2 : 0, "claimed", i, 3);
@@ -1527,6 +1576,15 @@ public final class EdgeTests {
         for (int c = 0; c < 4; c++) row(rich(), "claimed", told[c], c);
         Desk six = sixPairs();
         for (int c = 0; c < 12; c++) row(six, "claimed", new int[] {c, c % 6, NONE, 1, 32, 32, NONE, 0}, c);
+        six.ask("trust", 1, 4);
+        six.ask("trust", 4, 4);
+        // sources 1 and 4 have claims 1, 4, 7, 10; they no longer strike 0, 5, 6, 11
+        int[] sure = {0, 5, 6, 11}, lost = {1, 4, 7, 10};
+        for (int what = 4; what < 6; what++) {
+            for (int c : sure) six.due(4, "claimed", c, what);
+            for (int c : lost) six.due(0, "claimed", c, what);
+            for (int c : new int[] {2, 3, 8, 9}) six.due(2, "claimed", c, what);
+        }
         edge(32, "UNKNOWN;");
         each(UNKNOWN, "claimed", "4 0", "-1 0", "4 8", "-1 -1", "L 0", "G 0");
         each(EdgeTests::full, UNKNOWN, "claimed", "12 0");
